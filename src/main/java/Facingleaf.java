@@ -23,6 +23,8 @@ public final class Facingleaf {
     private static final int ROWS = CHAPTER_WORDS + ITEMS;
     private static final int PAGES = ROWS + FLOATS + NOTE_LINES;
     private static final int ROUNDS = 12;
+    /** A word has at most so many pieces: the lines of its note, or one float. */
+    private static final int PIECES = 4;
     private static final int TRIED_ROWS = 8;
 
     private static final int PLAIN = 0;
@@ -464,8 +466,8 @@ public final class Facingleaf {
         Chapter other = chapters[chapter];
         return draft.count > 0
             && other.wordsBut(but) + draft.count <= CHAPTER_WORDS
-            && other.noteLinesBut(but) + draft.noteLines() <= NOTE_LINES
-            && other.floatsBut(but) + draft.floats() <= FLOATS
+            && other.sumBut(NOTE, but) + draft.sumOf(NOTE) <= NOTE_LINES
+            && other.sumBut(FLOAT, but) + draft.sumOf(FLOAT) <= FLOATS
             && !hasLabelTwice(chapter, but);
     }
 
@@ -595,18 +597,13 @@ public final class Facingleaf {
             return width[word] + taken[word];
         }
 
-        private int noteLines() {
+        /** How many words of a kind there are; of notes, how many lines. */
+        private int sumOf(int asked) {
             int sum = 0;
             for (int w = 0; w < count; w++) {
-                sum += kind[w] == NOTE ? value[w] : 0;
-            }
-            return sum;
-        }
-
-        private int floats() {
-            int sum = 0;
-            for (int w = 0; w < count; w++) {
-                sum += kind[w] == FLOAT ? 1 : 0;
+                if (kind[w] == asked) {
+                    sum += asked == NOTE ? value[w] : 1;
+                }
             }
             return sum;
         }
@@ -651,18 +648,10 @@ public final class Facingleaf {
             return sum;
         }
 
-        private int noteLinesBut(int but) {
+        private int sumBut(int kind, int but) {
             int sum = 0;
             for (int i = 0; i < count; i++) {
-                sum += i == but ? 0 : items[i].noteLines();
-            }
-            return sum;
-        }
-
-        private int floatsBut(int but) {
-            int sum = 0;
-            for (int i = 0; i < count; i++) {
-                sum += i == but ? 0 : items[i].floats();
+                sum += i == but ? 0 : items[i].sumOf(kind);
             }
             return sum;
         }
@@ -765,10 +754,11 @@ public final class Facingleaf {
         /** The last head that has too few rows below it on a page that ends here; -1 for none. */
         private final int[] lateHead = new int[ROWS + 1];
         private int floats = 0;
-        private final int[] floatWord = new int[FLOATS];
+        /** By float: of which item and word; by line of a note, also which line of the note. */
+        private final int[] floatPiece = new int[FLOATS];
+        private final int[] notePiece = new int[NOTE_LINES];
         private final int[] highTo = new int[FLOATS + 1];
         private int notes = 0;
-        private final int[] noteLine = new int[NOTE_LINES];
         private int leastNotes = 0;
 
         private void collect(Chapter chapter) {
@@ -807,15 +797,15 @@ public final class Facingleaf {
 
         private void addWord(Item one, int number, int word) {
             int value = one.value[word];
-            int id = number * WORDS + word;
+            int piece = (number * WORDS + word) * PIECES;
             if (one.kind[word] == FLOAT && floats < FLOATS) {
-                floatWord[floats] = id;
+                floatPiece[floats] = piece;
                 highTo[floats + 1] = highTo[floats] + value;
                 floats++;
             } else if (one.kind[word] == NOTE) {
                 leastNotes = notes + 1;
                 for (int line = 0; line < value && notes < NOTE_LINES; line++) {
-                    noteLine[notes] = id * NOTE_LINES + line;
+                    notePiece[notes] = piece + line;
                     notes++;
                 }
             }
@@ -1125,16 +1115,26 @@ public final class Facingleaf {
             }
         }
 
+        /** Weighs the page that was tried last, by each that can be ahead of it. */
         private void weighPage(int place, int next, int way) {
-            for (int ahead = 0; ahead < AHEADS; ahead++) {
-                if ((reached[place] >> ahead & 1) != 0) {
-                    int rest = least[next * AHEADS + aheadOfNext(ahead)];
-                    int sum = cost + costBehind(ahead) + rest;
-                    if (sum < least[place * AHEADS + ahead]) {
-                        least[place * AHEADS + ahead] = sum;
-                        choice[place * AHEADS + ahead] = way;
-                    }
+            int aheads = reached[place];
+            if ((aheads & (1 << RIGHT)) != 0) {
+                weighWay(place * AHEADS + RIGHT, cost + least[next * AHEADS + filled], way);
+            }
+            int sum = cost + least[next * AHEADS + RIGHT];
+            int left = aheads >> 1;
+            for (int ahead = 1; ahead < AHEADS && left != 0; ahead++) {
+                if ((left & 1) != 0) {
+                    weighWay(place * AHEADS + ahead, sum + costBehind(ahead), way);
                 }
+                left >>= 1;
+            }
+        }
+
+        private void weighWay(int at, int sum, int way) {
+            if (sum < least[at]) {
+                least[at] = sum;
+                choice[at] = way;
             }
         }
 
@@ -1324,34 +1324,29 @@ public final class Facingleaf {
             int from = pages[chapter].floatsBefore(k);
             int otherFrom = other.pages[chapter].floatsBefore(j);
             int count = pages[chapter].floatsTo[k] - from;
-            if (count != other.pages[chapter].floatsTo[j] - otherFrom) {
-                return false;
+            boolean isAlike = count == other.pages[chapter].floatsTo[j] - otherFrom;
+            for (int f = 0; f < count && isAlike; f++) {
+                isAlike = hasSamePiece(other, chapter, rows[chapter].floatPiece[from + f],
+                    other.rows[chapter].floatPiece[otherFrom + f]);
             }
-            for (int f = 0; f < count; f++) {
-                int word = rows[chapter].floatWord[from + f];
-                if (word != other.rows[chapter].floatWord[otherFrom + f]
-                        || !hasSameItem(other, chapter, word / WORDS)) {
-                    return false;
-                }
-            }
-            return true;
+            return isAlike;
         }
 
         private boolean hasSameNotes(Edition other, int chapter, int k, int j) {
             int from = pages[chapter].notesBefore(k);
             int otherFrom = other.pages[chapter].notesBefore(j);
             int count = pages[chapter].notesTo[k] - from;
-            if (count != other.pages[chapter].notesTo[j] - otherFrom) {
-                return false;
+            boolean isAlike = count == other.pages[chapter].notesTo[j] - otherFrom;
+            for (int n = 0; n < count && isAlike; n++) {
+                isAlike = hasSamePiece(other, chapter, rows[chapter].notePiece[from + n],
+                    other.rows[chapter].notePiece[otherFrom + n]);
             }
-            for (int n = 0; n < count; n++) {
-                int line = rows[chapter].noteLine[from + n];
-                if (line != other.rows[chapter].noteLine[otherFrom + n]
-                        || !hasSameItem(other, chapter, line / NOTE_LINES / WORDS)) {
-                    return false;
-                }
-            }
-            return true;
+            return isAlike;
+        }
+
+        /** The float or the note of an item that was replaced is another one. */
+        private boolean hasSamePiece(Edition other, int chapter, int piece, int otherPiece) {
+            return piece == otherPiece && hasSameItem(other, chapter, piece / PIECES / WORDS);
         }
     }
 
