@@ -58,6 +58,8 @@ final class PlainBook {
     boolean byPage = false;
     boolean composed = false;
     boolean settled = false;
+    /** Whether twelve rounds were made in which nothing was taken twice. */
+    boolean endless = false;
     int brokenCount = 0;
     Printed printed = null;
 
@@ -257,6 +259,7 @@ final class PlainBook {
         }
         composed = false;
         settled = false;
+        endless = false;
         brokenCount = 0;
         List<Map<String, Integer>> takenBy = new ArrayList<>();
         takenBy.add(firstWidths());
@@ -274,6 +277,7 @@ final class PlainBook {
             }
             int ring = takenBy.indexOf(found);
             if (ring < 0 && takenBy.size() == 12) {
+                endless = true;
                 ring = 0;
             }
             if (ring >= 0) {
