@@ -1440,10 +1440,17 @@ public final class Facingleaf {
             int renewed = breakParagraphs();
             now.last = now.contents;
             for (int c = 0; c < CHAPTERS; c++) {
-                boolean isNew = round == 0 || (renewed >> c & 1) != 0;
-                if (!hasMadeChapter(c, isNew)) {
+                int first = chapters[c].count > 0 ? now.last + 1 + now.last % 2 : 0;
+                // Pages of rows that are as in the round before are the same, if they begin there.
+                boolean isNew = round == 0 || (renewed >> c & 1) != 0
+                    || now.pages[c].first != first;
+                if (isNew) {
+                    beginChapter(c, first);
+                }
+                if (isNew && first > 0 && !maker.hasMadeRest(now.pages[c])) {
                     return false;
                 }
+                now.last = first > 0 ? first + now.pages[c].count - 1 : now.last;
             }
             readPages();
             return true;
@@ -1463,21 +1470,11 @@ public final class Facingleaf {
             return renewed;
         }
 
-        /** Pages of rows that are as in the round before are the same, if they begin where then. */
-        private boolean hasMadeChapter(int c, boolean isNew) {
-            Pages pages = now.pages[c];
-            int first = chapters[c].count > 0 ? now.last + 1 + now.last % 2 : 0;
-            if (isNew || pages.first != first) {
-                now.rows[c].collect(chapters[c]);
-                pages.begin(first);
-                maker.begin(now.rows[c], now.depth);
-                keepPages(c);
-                if (first > 0 && !maker.hasMadeRest(pages)) {
-                    return false;
-                }
-            }
-            now.last = first > 0 ? first + pages.count - 1 : now.last;
-            return true;
+        private void beginChapter(int c, int first) {
+            now.rows[c].collect(chapters[c]);
+            now.pages[c].begin(first);
+            maker.begin(now.rows[c], now.depth);
+            keepPages(c);
         }
 
         private void keepPages(int c) {
