@@ -1,22 +1,15 @@
-import java.util.ArrayList;
-import java.util.List;
 import java.util.Random;
-import java.util.function.Supplier;
 
 /**
  * Plays random books (by fixed seeds) on Facingleaf and on PlainBook, and compares each answer.
  * With two numbers as arguments it plays those seeds: the first one, and how many.
  */
-public final class AgainstPlainBookTest {
+public final class AgainstPlainBookTest extends Both {
 
-    private static final int SEEDS = 400;
+    private static final int SEEDS = 1500;
 
-    private Facingleaf one = new Facingleaf();
-    private final PlainBook other = new PlainBook();
     private final Random random;
-    private final List<String> calls = new ArrayList<>();
     private final int style;
-    private int asked = 0;
     private static int compositions = 0;
     private static int failedCompositions = 0;
     private static int rings = 0;
@@ -29,33 +22,6 @@ public final class AgainstPlainBookTest {
     private AgainstPlainBookTest(long seed) {
         random = new Random(seed);
         style = (int) (seed % 8);
-    }
-
-    private static String answer(Supplier<Object> call) {
-        try {
-            return String.valueOf(call.get());
-        } catch (IllegalStateException | IllegalArgumentException e) {
-            return "throws." + e.getClass().getSimpleName();
-        } catch (IndexOutOfBoundsException e) {
-            return "throws." + e.getClass().getSimpleName();
-        }
-    }
-
-    private String same(String call, Supplier<Object> a, Supplier<Object> b) {
-        String mine = answer(a);
-        String due = answer(b);
-        calls.add(call + " = " + mine);
-        asked++;
-        if (!mine.equals(due)) {
-            for (String line : calls) {
-                System.out.println("  " + line);
-            }
-            throw new AssertionError(call + " answered " + mine + ", due is " + due);
-        }
-        if (asked == 512) {
-            throw new IllegalThreadStateException();
-        }
-        return mine;
     }
 
     private int upTo(int most) {
@@ -76,13 +42,11 @@ public final class AgainstPlainBookTest {
             value = random.nextInt(14) - 2;
         }
         int w = random.nextInt(50) == 0 ? random.nextInt(11) - 1 : wideByStyle();
-        int v = value;
         if (kind >= 0 && random.nextInt(style == 4 || style == 7 ? 3 : 9) == 0) {
             int label = random.nextInt(40) == 0 ? 10 : upTo(9);
-            same("refer(" + label + ")", () -> one.refer(label), () -> other.refer(label));
+            refer(label);
         } else {
-            same("word(" + w + ", " + kind + ", " + v + ")", () -> one.word(w, kind, v),
-                () -> other.word(w, kind, v));
+            word(w, kind, value);
         }
     }
 
@@ -116,84 +80,51 @@ public final class AgainstPlainBookTest {
         int roll = random.nextInt(100);
         if (roll < 55) {
             fill();
-            same("paragraph(" + c + ")", () -> one.paragraph(c), () -> other.paragraph(c));
+            paragraph(c);
         } else if (roll < 70) {
             int level = random.nextInt(30) == 0 ? 2 : upTo(1);
             int need = random.nextInt(30) == 0 ? 4 * upTo(1) : 1 + upTo(2);
-            same("head(" + c + ", " + level + ", " + need + ")", () -> one.head(c, level, need),
-                () -> other.head(c, level, need));
+            head(c, level, need);
         } else if (roll < 86) {
             fill();
-            int i = upTo(6) - (random.nextInt(20) == 0 ? 7 : 0);
-            same("replace(" + c + ", " + i + ")", () -> one.replace(c, i),
-                () -> other.replace(c, i));
+            replace(c, upTo(6) - (random.nextInt(20) == 0 ? 7 : 0));
         } else if (roll < 90) {
-            int t = upTo(10);
-            int o = upTo(11) - 1;
-            same("seeAlso(" + t + ", " + o + ")", () -> one.seeAlso(t, o),
-                () -> other.seeAlso(t, o));
+            seeAlso(upTo(10), upTo(11) - 1);
         } else if (roll < 94) {
-            int w = 8 + upTo(23);
-            int d = 8 + upTo(7);
-            same("setMeasures(" + w + ", " + d + ")", () -> one.setMeasures(w, d),
-                () -> other.setMeasures(w, d));
+            measures(8 + upTo(23), 8 + upTo(7));
         } else if (roll < 97) {
-            boolean b = random.nextBoolean();
-            same("setByPage(" + b + ")", () -> one.setByPage(b), () -> other.setByPage(b));
+            byPage(random.nextBoolean());
         }
         if (random.nextInt(3) == 0) {
-            same("clear()", () -> one.clear(), () -> other.clear());
+            clear();
         }
     }
 
-    private void compose() {
-        boolean keep = random.nextBoolean();
-        String rounds = same("compose(" + keep + ")", () -> one.compose(keep),
-            () -> other.compose(keep));
-        same("isComposed()", () -> one.isComposed(), () -> other.isComposed());
+    private void composeBook() {
+        String rounds = compose(random.nextBoolean());
         if (!rounds.startsWith("throws")) {
             compositions++;
             failedCompositions += rounds.equals("-1") ? 1 : 0;
             mostRounds = Math.max(mostRounds, Integer.parseInt(rounds));
             rings += other.composed && other.settled ? 1 : 0;
         }
-    }
-
-    private void tellBook() {
-        same("pages()", () -> one.pages(), () -> other.pages());
-        same("broken()", () -> one.broken(), () -> other.broken());
-        same("isSettled()", () -> one.isSettled(), () -> other.isSettled());
-        same("indexLines()", () -> one.indexLines(), () -> other.indexLines());
-        same("sheets()", () -> one.sheets(), () -> other.sheets());
-        String untouched = same("untouched()", () -> one.untouched(), () -> other.untouched());
-        untouchedSheets += untouched.equals("0") || untouched.startsWith("t") ? 0 : 1;
+        tellBook();
+        untouchedSheets += other.composed && other.untouched() > 0 ? 1 : 0;
         for (int c = 0; c < 3; c++) {
+            String cost = cost(c);
+            String byAll = costByAll(c);
+            cheaperByAll += cost.equals(byAll) || byAll.startsWith("t") ? 0 : 1;
             tellChapter(c);
         }
-    }
-
-    private void tellChapter(int c) {
-        String cost = same("cost(" + c + ")", () -> one.cost(c), () -> other.cost(c));
-        String byAll = same("costByAll(" + c + ")", () -> one.costByAll(c),
-            () -> other.costByAll(c));
-        cheaperByAll += cost.equals(byAll) || byAll.startsWith("t") ? 0 : 1;
-        same("rows(" + c + ")", () -> one.rows(c), () -> other.rows(c));
-        same("pageOf(" + c + ", true)", () -> one.pageOf(c, true), () -> other.pageOf(c, true));
-        same("pageOf(" + c + ", false)", () -> one.pageOf(c, false),
-            () -> other.pageOf(c, false));
     }
 
     private void tellPages() {
         int most = other.composed ? other.pages.size() + 1 : 2;
         for (int k = 0; k < Math.min(most, 6); k++) {
             int p = most > 6 ? upTo(most) : k + upTo(1);
-            same("kindOf(" + p + ")", () -> one.kindOf(p), () -> other.kindOf(p));
-            boolean b = random.nextBoolean();
-            same("headOf(" + p + ", " + b + ")", () -> one.headOf(p, b), () -> other.headOf(p, b));
+            tellPage(p, random.nextBoolean());
             for (int what = upTo(1) - 1; what < 5 + upTo(1); what++) {
-                int w = what;
-                same("onPage(" + p + ", " + w + ")", () -> one.onPage(p, w),
-                    () -> other.onPage(p, w));
+                tellOnPage(p, what);
             }
             if (other.composed && p >= 1 && p < most) {
                 PlainBook.Page page = other.pages.get(p - 1);
@@ -202,15 +133,13 @@ public final class AgainstPlainBookTest {
         }
     }
 
-    private void tellItem() {
+    private void tellSomeItem() {
         int c = chapter();
         int i = upTo(9) - (random.nextInt(20) == 0 ? 10 : 0);
         same("items(" + c + ")", () -> one.items(c), () -> other.items(c));
         String words = same("words(" + c + ", " + i + ")", () -> one.words(c, i),
             () -> other.words(c, i));
-        same("lines(" + c + ", " + i + ")", () -> one.lines(c, i), () -> other.lines(c, i));
-        same("costOfLines(" + c + ", " + i + ")", () -> one.costOfLines(c, i),
-            () -> other.costOfLines(c, i));
+        tellItem(c, i);
         int line = upTo(6) - upTo(1);
         same("wordsTo(" + c + ", " + i + ", " + line + ")", () -> one.wordsTo(c, i, line),
             () -> other.wordsTo(c, i, line));
@@ -222,14 +151,6 @@ public final class AgainstPlainBookTest {
             int w = upTo(count) - (random.nextInt(20) == 0 ? count : 0);
             tellWord(c, i, w);
         }
-    }
-
-    private void tellWord(int c, int i, int w) {
-        String at = "(" + c + ", " + i + ", " + w + ")";
-        same("widthOf" + at, () -> one.widthOf(c, i, w), () -> other.widthOf(c, i, w));
-        same("textOf" + at, () -> one.textOf(c, i, w), () -> other.textOf(c, i, w));
-        same("noteOf" + at, () -> one.noteOf(c, i, w), () -> other.noteOf(c, i, w));
-        same("marginOf" + at, () -> one.marginOf(c, i, w), () -> other.marginOf(c, i, w));
     }
 
     private void tellIndex() {
@@ -262,27 +183,23 @@ public final class AgainstPlainBookTest {
     }
 
     private void play() {
-        int w = 8 + upTo(style == 2 ? 2 : 12);
-        int d = 8 + upTo(3);
-        same("setMeasures(" + w + ", " + d + ")", () -> one.setMeasures(w, d),
-            () -> other.setMeasures(w, d));
+        measures(8 + upTo(style == 2 ? 2 : 12), 8 + upTo(3));
         if (style == 7) {
-            same("setByPage(true)", () -> one.setByPage(true), () -> other.setByPage(true));
+            byPage(true);
         }
         for (int turn = 0; turn < 60; turn++) {
             for (int k = upTo(turn == 0 ? 8 : 2); k >= 0; k--) {
                 change();
             }
-            compose();
-            tellBook();
+            composeBook();
             tellPages();
-            tellItem();
+            tellSomeItem();
             tellIndex();
             if (other.composed && style == 3) {
                 allMargins();
             }
             if (random.nextInt(3) == 0) {
-                same("print()", () -> one.print(), () -> other.print());
+                print();
             }
         }
     }
@@ -294,7 +211,7 @@ public final class AgainstPlainBookTest {
             AgainstPlainBookTest run = new AgainstPlainBookTest(seed);
             try {
                 run.play();
-            } catch (IllegalThreadStateException e) {
+            } catch (Enough e) {
                 // 512 calls are made
             } catch (AssertionError e) {
                 System.out.println("seed " + seed + ": " + e.getMessage());
