@@ -65,6 +65,68 @@ public final class ComposeTest {
             () -> new Facingleaf().isSettled());
     }
 
+    private static void ringOfAll() {
+        due.promise(11, "compose");
+        // 2 and 2, 5 and 5, and then overleaf: 8 and 8, by which the label comes back to page 1
+        Facingleaf x = Drafts.book(11, 8);
+        Drafts.paragraph(x, 0, "R1");
+        Drafts.paragraph(x, 0, "8");
+        Drafts.paragraph(x, 0, "8 8 R1 3 2L1 8 8");
+        due.is("compose", x.compose(false), 4);
+        due.is("the widest of the first one", x.widthOf(0, 0, 0), 8);
+        due.is("the widest of the second one", x.widthOf(0, 2, 2), 8);
+        due.is("the label is on the same page", x.textOf(0, 0, 0), 1);
+        due.is("lines(0, 2)", x.lines(0, 2), 6);
+        due.is("the paragraph of 8 in the first round alone", x.broken(), 7);
+        due.promise(29, "isSettled");
+        due.is("isSettled()", x.isSettled(), true);
+    }
+
+    private static void ringFromTheFirstRound() {
+        due.promise(11, "compose");
+        // 14 rows: three, the one above, ten lines; with two digits the tenth note goes to a line
+        // of its own, on page 2, where it has the number 1
+        Facingleaf x = Drafts.book(30, 14);
+        x.setByPage(true);
+        Drafts.paragraph(x, 0, "8 8 8 3 8 8 8 3 1N1 1N1 1N1 1N1 1N1 1N1 1N1 1N1 1N1 2N1");
+        due.is("one digit, two digits, which are the widest", x.compose(false), 3);
+        due.is("widthOf(0, 0, 17)", x.widthOf(0, 0, 17), 4);
+        due.is("noteOf(0, 0, 17)", x.noteOf(0, 0, 17), 1);
+        due.is("pageOfRow(0, 3)", x.pageOfRow(0, 3), 2);
+        due.promise(29, "isSettled");
+        due.is("isSettled()", x.isSettled(), true);
+    }
+
+    private static void movedChapter() {
+        due.promise(11, "compose");
+        // the reference takes a line more, and with it chapter 0 a third page
+        Facingleaf x = Drafts.book(8, 8);
+        Drafts.rows(x, 0, 8);
+        Drafts.paragraph(x, 0, "5 R1 8 8 8 8 8 8 4L1");
+        Drafts.rows(x, 1, 8);
+        due.is("2, 5 and then 6 wide", x.compose(false), 3);
+        due.is("textOf(0, 1, 1)", x.textOf(0, 1, 1), 13);
+        due.is("pageOf(0, true)", x.pageOf(0, true), 3);
+        due.is("a chapter that is as it was", x.pageOf(1, false), 5);
+        due.is("kindOf(4)", x.kindOf(4), 4);
+        due.is("broken()", x.broken(), 5);
+    }
+
+    private static void manyReferences() {
+        due.promise(11, "compose");
+        Facingleaf x = Drafts.book(30, 14);
+        for (int k = 0; k < 9; k++) {
+            for (int w = 0; w < 20; w++) {
+                x.refer(k);
+            }
+            x.paragraph(k / 3);
+        }
+        due.is("180 references", x.compose(false), 1);
+        due.is("the last one", x.widthOf(2, 2, 19), 2);
+        due.is("textOf(2, 2, 19)", x.textOf(2, 2, 19), 0);
+        due.is("20 of 2 in two lines of 30", x.lines(2, 2), 2);
+    }
+
     private static void inVain() {
         due.promise(11, "compose");
         Facingleaf x = Drafts.book(30, 8);
@@ -154,6 +216,25 @@ public final class ComposeTest {
         isKept(x, 0, true, false);
     }
 
+    private static void keepFirstRow() {
+        due.promise(11, "compose");
+        // 1, blank, 4 lacks 2, of which the blank takes 1
+        Facingleaf x = Drafts.book(8, 8);
+        Drafts.rows(x, 0, 1);
+        Drafts.rows(x, 0, 4);
+        Drafts.rows(x, 0, 3);
+        x.compose(false);
+        x.print();
+        Drafts.replace(x, 0, 2, "8");
+        x.compose(true);
+        due.is("it is kept", 10 * x.onPage(1, 0) + x.onPage(2, 0), 51);
+        due.is("cost(0)", x.cost(0), 2);
+        Drafts.replace(x, 0, 0, "8");
+        x.compose(true);
+        due.is("its first row is another", x.onPage(1, 0), 6);
+        due.is("cost(0)", x.cost(0), 0);
+    }
+
     private static void keepWhereItBegins() {
         due.promise(11, "compose");
         Facingleaf x = printed(1);
@@ -214,9 +295,14 @@ public final class ComposeTest {
         rounds();
         threeRounds();
         rings();
+        ringOfAll();
+        ringFromTheFirstRound();
+        movedChapter();
+        manyReferences();
         inVain();
         print();
         keep();
+        keepFirstRow();
         keepWhereItBegins();
         keepNotTheLast();
         keepFloats();

@@ -225,6 +225,41 @@ public final class IndexTest {
         isUntouched(x, "the second note has the number 1 then", 1);
     }
 
+    /** Four pages, the fourth with seven rows or with a note; on page 5 what it leaves behind. */
+    private static Facingleaf printedBehind(String fourth, int rows) {
+        Facingleaf x = Drafts.book(8, 8);
+        for (int k = 0; k < 3; k++) {
+            Drafts.rows(x, 0, 8);
+        }
+        Drafts.paragraph(x, 0, fourth);
+        Drafts.rows(x, 0, rows);
+        Drafts.rows(x, 0, 2);
+        x.compose(false);
+        x.print();
+        due.is("as printed", x.untouched(), 2);
+        due.is("pages()", x.pages(), 6);
+        return x;
+    }
+
+    private static void touchedByFloats() {
+        due.promise(39, "untouched");
+        Facingleaf x = printedBehind("8 8 8 8 8 8 8F3", 5);
+        due.is("the float is late", x.onPage(5, 1), 1);
+        Drafts.replace(x, 0, 3, "8 8 8 8 8 8 8F2");
+        isUntouched(x, "page 5 has the same rows, and another float", 0);
+        due.is("rows", x.onPage(5, 0), 5);
+        due.is("floats", x.onPage(5, 1), 1);
+        x = printedBehind("7N4 7N4", 4);
+        due.is("three lines go over", x.onPage(5, 2), 3);
+        Drafts.replace(x, 0, 5, "8 8");
+        isUntouched(x, "the first sheet is as it was", 1);
+        x.print();
+        Drafts.replace(x, 0, 3, "7N2 8 8 7N4");
+        isUntouched(x, "page 5 has lines of another note", 0);
+        due.is("rows", x.onPage(5, 0), 4);
+        due.is("lines", x.onPage(5, 2), 3);
+    }
+
     private static void touchedByGrowth() {
         due.promise(39, "untouched");
         // the very last page has nothing that grows; with one behind it, it has
@@ -253,6 +288,7 @@ public final class IndexTest {
         untouched();
         touchedFromAfar();
         touchedByNumbers();
+        touchedByFloats();
         touchedByGrowth();
         due.end();
     }

@@ -131,6 +131,19 @@ public final class TextsTest {
         due.isThrown(Due.INDEX, "headOf(0, false)", () -> x.headOf(0, false));
     }
 
+    private static void headBehind() {
+        due.promise(32, "headOf");
+        // the row with five lines of notes has no room for a head below it
+        Facingleaf x = Drafts.book(8, 8);
+        Drafts.paragraph(x, 0, "1N4 2N1");
+        x.head(0, 0, 1);
+        Drafts.paragraph(x, 0, "8");
+        x.compose(false);
+        due.is("rows of page 3", x.onPage(3, 0), 1);
+        due.is("a head that is on the next page", x.headOf(3, false), -1);
+        due.is("headOf(4, true)", x.headOf(4, true), 1);
+    }
+
     private static void margins() {
         due.promise(33, "marginOf");
         Facingleaf x = Drafts.book(30, 8);
@@ -211,6 +224,7 @@ public final class TextsTest {
         notes();
         lateNotes();
         runningHeads();
+        headBehind();
         margins();
         overTheFold();
         places();
