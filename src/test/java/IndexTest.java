@@ -226,13 +226,13 @@ public final class IndexTest {
     }
 
     /** Four pages, the fourth with seven rows or with a note; on page 5 what it leaves behind. */
-    private static Facingleaf printedBehind(String fourth, int rows) {
+    private static Facingleaf printedBehind(String fourth, String fifth) {
         Facingleaf x = Drafts.book(8, 8);
         for (int k = 0; k < 3; k++) {
             Drafts.rows(x, 0, 8);
         }
         Drafts.paragraph(x, 0, fourth);
-        Drafts.rows(x, 0, rows);
+        Drafts.paragraph(x, 0, fifth);
         Drafts.rows(x, 0, 2);
         x.compose(false);
         x.print();
@@ -243,13 +243,13 @@ public final class IndexTest {
 
     private static void touchedByFloats() {
         due.promise(39, "untouched");
-        Facingleaf x = printedBehind("8 8 8 8 8 8 8F3", 5);
+        Facingleaf x = printedBehind("8 8 8 8 8 8 8F3", "8 8 8 8 8");
         due.is("the float is late", x.onPage(5, 1), 1);
         Drafts.replace(x, 0, 3, "8 8 8 8 8 8 8F2");
         isUntouched(x, "page 5 has the same rows, and another float", 0);
         due.is("rows", x.onPage(5, 0), 5);
         due.is("floats", x.onPage(5, 1), 1);
-        x = printedBehind("7N4 7N4", 4);
+        x = printedBehind("7N4 7N4", "8 8 8 8");
         due.is("three lines go over", x.onPage(5, 2), 3);
         Drafts.replace(x, 0, 5, "8 8");
         isUntouched(x, "the first sheet is as it was", 1);
@@ -258,6 +258,11 @@ public final class IndexTest {
         isUntouched(x, "page 5 has lines of another note", 0);
         due.is("rows", x.onPage(5, 0), 4);
         due.is("lines", x.onPage(5, 2), 3);
+        x = printedBehind("7N4 7N2", "7N1 8 8 8");
+        due.is("one line goes over, and one is of page 5", x.onPage(5, 2), 2);
+        Drafts.replace(x, 0, 3, "7N2 8 8 7N2");
+        isUntouched(x, "the one that goes over is another", 0);
+        due.is("lines", x.onPage(5, 2), 2);
     }
 
     private static void touchedByGrowth() {
