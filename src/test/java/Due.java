@@ -1,3 +1,4 @@
+import java.util.function.IntFunction;
 import java.util.function.Supplier;
 
 /** Counts the answers that are not the due ones, and prints each. */
@@ -20,6 +21,11 @@ final class Due {
         promise = "promise " + number + " (" + name + ")";
     }
 
+    /** A sentence of the document that names an edge, and the promises that stand on it. */
+    void sentence(String promises, String words) {
+        promise = "promise " + promises + ", \"" + words + "\"";
+    }
+
     void is(String call, Object got, Object want) {
         asked++;
         if (!got.equals(want)) {
@@ -30,6 +36,13 @@ final class Due {
 
     void isThrown(String want, String call, Supplier<Object> asking) {
         is(call, answer(asking), "throws." + want);
+    }
+
+    /** Asks one call again and again, each time with another number. */
+    void areThrown(String want, String call, IntFunction<Object> asking, int... numbers) {
+        for (int number : numbers) {
+            isThrown(want, call + " of " + number, () -> asking.apply(number));
+        }
     }
 
     /** What a call answers, or which exception it throws, as a text. */
