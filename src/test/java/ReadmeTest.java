@@ -1,4 +1,6 @@
 import java.io.IOException;
+import java.lang.reflect.InvocationTargetException;
+import java.lang.reflect.Method;
 import java.nio.file.Files;
 import java.nio.file.Path;
 import java.util.Set;
@@ -7,13 +9,17 @@ import java.util.regex.Matcher;
 import java.util.regex.Pattern;
 
 /**
- * README.md names the tests of each promise's boundary cases: each that it names is there, and each
- * that says a sentence of the document is named. It is run in the project's directory.
+ * What README.md says holds: its example answers as told behind each call, its table of calls names
+ * all of them, and that of boundary cases names tests that there are, and each that says a sentence
+ * of the document. It is run in the project's directory.
  */
 public final class ReadmeTest {
 
     private static final Path TESTS = Path.of("src", "test", "java");
     private static final Pattern ROW = Pattern.compile("\\| (\\d+) \\| (.*) \\|");
+    private static final Pattern EXAMPLE = Pattern.compile(
+        "\nbook\\.((\\w+)\\(([^)]*)\\)); +// (throws (\\w+)|-?\\w+)");
+    private static final Pattern CALLS = Pattern.compile("\n\\| (`[^|]*) \\|[^|]*\\|");
     private static final Pattern METHOD = Pattern.compile(
         "    private static void (\\w+)\\([^{]*\\{\n(.*?)\n    \\}\n", Pattern.DOTALL);
 
@@ -56,8 +62,61 @@ public final class ReadmeTest {
         return named;
     }
 
-    public static void main(String[] args) throws IOException {
+    private static String answer(Facingleaf book, String name, String[] arguments)
+            throws ReflectiveOperationException {
+        for (Method method : Facingleaf.class.getMethods()) {
+            if (method.getName().equals(name) && method.getDeclaringClass() == Facingleaf.class) {
+                Object[] values = new Object[arguments.length];
+                for (int k = 0; k < values.length; k++) {
+                    boolean isFlag = method.getParameterTypes()[k] == boolean.class;
+                    values[k] = isFlag ? (Object) Boolean.valueOf(arguments[k])
+                        : (Object) Integer.valueOf(arguments[k]);
+                }
+                try {
+                    return String.valueOf(method.invoke(book, values));
+                } catch (InvocationTargetException e) {
+                    return "throws " + e.getCause().getClass().getSimpleName();
+                }
+            }
+        }
+        return "no such call";
+    }
+
+    private static void example(String readme) throws ReflectiveOperationException {
+        Facingleaf book = new Facingleaf();
+        Matcher line = EXAMPLE.matcher(readme);
+        int lines = 0;
+        while (line.find()) {
+            lines++;
+            String[] arguments = line.group(3).isEmpty() ? new String[0] : line.group(3).split(", ");
+            due.is("the example's " + line.group(1), answer(book, line.group(2), arguments),
+                line.group(4));
+        }
+        due.is("each call of the example is played", lines, readme.split("\nbook\\.").length - 1);
+    }
+
+    private static void tableOfCalls(String readme) {
+        Set<String> calls = new TreeSet<>();
+        Matcher row = CALLS.matcher(readme);
+        while (row.find()) {
+            calls.addAll(Set.of(row.group(1).replace("`", "").split(", ")));
+        }
+        for (Method method : Facingleaf.class.getMethods()) {
+            if (method.getDeclaringClass() == Facingleaf.class) {
+                due.is(method.getName() + " is in the table", calls.contains(method.getName()), true);
+            }
+        }
+    }
+
+    public static void main(String[] args) throws IOException, ReflectiveOperationException {
         String readme = Files.readString(Path.of("README.md"));
+        example(readme);
+        tableOfCalls(readme);
+        boundaryCases(readme);
+        due.end();
+    }
+
+    private static void boundaryCases(String readme) throws IOException {
         Set<String> there = new TreeSet<>();
         for (String test : edgeTests()) {
             for (String method : sayingMethods(test)) {
@@ -80,6 +139,5 @@ public final class ReadmeTest {
             String name = method.substring(method.indexOf('.') + 1);
             due.is(method + " is named", readme.contains(name), true);
         }
-        due.end();
     }
 }
